@@ -1088,8 +1088,9 @@ public final class GaugeNet {
 
         /** The UNKNOWNS (bits) without which ROWS have as many PAIRS: some greatest pairing leaves them out. */
         int leftOut(Works works, int rows) {
-            Arrays.fill(taken, false);
-            taken[0] = true;
+            for (int set = 0; set < UNKNOWN_SETS; set++) {
+                taken[set] = set == 0;
+            }
             for (int row = 0; row < ROWS; row++) {
                 if (hasBit(rows, row)) {
                     pairRow(works.hasOf(row));
@@ -1621,7 +1622,9 @@ public final class GaugeNet {
         private final int[] common = new int[MOST_JUDGED + 1];
 
         void hear(Works works, Tests tests) {
-            Arrays.fill(rung, false);
+            for (int bits = 0; bits < FAULT_SETS; bits++) {
+                rung[bits] = false;
+            }
             quietFaults = 0;
             faults = works.faults;
             int net = works.netNow();

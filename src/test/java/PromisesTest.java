@@ -335,6 +335,10 @@ public final class PromisesTest {
         due("23 positions", x.positions(), -2);
         x = new GaugeNet();
         due("23 positions", x.positions(), 1);
+        x = Check.of("unknown x; unknown y; eq a in 0, 2, 3: + x; eq b in 1, 2, 3: + y; gauge g of x; gauge h of y;"
+                + "fault p in a; fault q in b;");
+        due("20 told", x.told(3), 1);
+        due("23 positions: the fewest go ahead of the least bits", x.positions(), 4);
         x = Check.of(FOUR);
         due("21 adding: c or d, the cheaper", x.adding(false), 8);
         due("21 adding: spare needs them both", x.adding(true), 12);
