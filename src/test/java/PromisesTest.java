@@ -339,6 +339,9 @@ public final class PromisesTest {
                 + "fault p in a; fault q in b;");
         due("20 told", x.told(3), 1);
         due("23 positions: the fewest go ahead of the least bits", x.positions(), 4);
+        x = Check.of("unknown x; eq a in 0: + x; eq b in 1: + x; eq c in 2: + x; eq d in 3: + x; gauge g of x;"
+                + "fault p in a; fault q in b; fault r in c; fault s in d;");
+        due("23 positions: all are needed", x.positions(), 15);
         x = Check.of(FOUR);
         due("21 adding: c or d, the cheaper", x.adding(false), 8);
         due("21 adding: spare needs them both", x.adding(true), 12);
