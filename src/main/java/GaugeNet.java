@@ -28,8 +28,8 @@ public final class GaugeNet {
 
     /** A TEST has one ROW more than UNKNOWNS. */
     private static final int MOST_TEST_ROWS = MOST_UNKNOWNS + 1;
-    /** No more sets of 8 of 14 ROWS are there, and no net of PAIRS up to 7 has more TESTS than those. */
-    private static final int MOST_TESTS = 3003;
+    /** No TEST has all ROWS of another one, so by Sperner there are no more of 14 ROWS than sets of 7: 14! / (7! 7!). */
+    private static final int MOST_TESTS = 3432;
 
     private static final int MOST_NUMBER = 9;
     private static final int MOST_CONSTANT = 999;

@@ -19,6 +19,10 @@ public final class OracleTest {
             random = new Random(seed);
             compare(7, 8, 6, 8, 1, 2);
         }
+        for (int seed = 3001; seed <= 3004; seed++) {
+            random = new Random(seed);
+            compare(6, 8, 6, 8, 1, 3);
+        }
         readAll();
         Check.end();
     }

@@ -36,6 +36,8 @@ public final class PromisesTest {
         judging();
         counts();
         worst();
+        crowded();
+        lateTests();
         Check.end();
     }
 
@@ -613,15 +615,15 @@ public final class PromisesTest {
         due("42 count", x.count(Integer.MIN_VALUE), -1);
     }
 
-    /** The most TESTS that can be, with the greatest WEIGHTS: signs of a Hadamard matrix, and numbers up to 9. */
-    private static void worst() {
+    /** All ROWS that can be, each EQ naming all UNKNOWNS: signs of a Hadamard matrix, and numbers up to 9. */
+    private static String fullText(int unknowns) {
         StringBuilder s = new StringBuilder();
-        for (int u = 0; u < 7; u++) {
+        for (int u = 0; u < unknowns; u++) {
             s.append("unknown ").append((char) ('a' + u)).append(';');
         }
         for (int e = 0; e < 8; e++) {
             s.append("eq e").append((char) ('a' + e)).append(':');
-            for (int u = 0; u < 7; u++) {
+            for (int u = 0; u < unknowns; u++) {
                 int number = 9 - (e * 5 + u * 3 + e * u) % 3;
                 s.append(Integer.bitCount(e & u + 1) % 2 == 0 ? "+" : "-").append(number).append((char) ('a' + u));
             }
@@ -633,25 +635,113 @@ public final class PromisesTest {
         for (int f = 0; f < 8; f++) {
             s.append("fault f").append((char) ('a' + f)).append(" in ").append(f < 5 ? "e" : "g").append((char) ('a' + f % 5)).append(';');
         }
-        GaugeNet x = Check.of(s.toString());
+        return s.toString();
+    }
+
+    /** The greatest WEIGHTS that can be. */
+    private static void worst() {
+        askAllTests(fullText(7), 3003);
+    }
+
+    /** The most TESTS that can be: each seven of the fourteen ROWS. */
+    private static void crowded() {
+        askAllTests(fullText(6), 3432);
+        GaugeNet x = Check.of(fullText(6));
+        due("16 test", x.test(0), 127);
+        due("16 test", x.test(3002), 13708);
+        due("16 test", x.test(3003), 13713);
+        due("16 test", x.test(3431), 16256);
+        due("16 test", x.test(3432), -1);
+        due("28 runs", x.runs(3431), 1);
+        due("28 runs", x.runs(3432), -1);
+        due("17 parts: fa in ea, fb in eb", x.parts(0, 1), 6);
+        due("39 still", x.still(0), 1716);
+        due("39 still", x.still(13), 1716);
+        x.dead(0, true);
+        due("15 tests", x.tests(), 1716);
+        x.dead(0, false);
+        due("15 tests", x.tests(), 3432);
+    }
+
+    private static void askAllTests(String text, int tests) {
         Oracle o = new Oracle();
-        o.tape = s.toString();
+        o.tape = text;
         due("read", o.read(), 0);
-        due("worst tests", x.tests(), 3003);
-        for (int k = 0; k < 3003; k++) {
-            due("worst test", x.test(k), o.test(k));
-            due("worst nought", x.nought(k), o.nought(k));
-            due("worst bound", x.bound(k), o.bound(k));
-            due("worst from", x.from(k, k % 8), o.from(k, k % 8));
-            due("worst weight", x.weight(k, k % 8), o.weight(k, k % 8));
+        GaugeNet x = Check.of(text);
+        due("all tests", x.tests(), tests);
+        for (int k = 0; k < tests; k++) {
+            // An object answers for 512 calls.
+            x = k % 60 == 59 ? Check.of(text) : x;
+            int row = k % 14;
+            due("all: test", x.test(k), o.test(k));
+            due("all: nought", x.nought(k), o.nought(k));
+            due("all: bound", x.bound(k), o.bound(k));
+            due("all: from", x.from(k, k % 8), o.from(k, k % 8));
+            due("all: weight", x.weight(k, row), o.weight(k, row));
+            due("all: ring", x.ring(k, row), o.ring(k, row));
         }
+        x = Check.of(text);
         for (int f = 0; f < 8; f++) {
             for (int g = 0; g < 8; g++) {
-                due("worst hide", x.hide(f, g), o.hide(f, g));
+                due("all: hide", x.hide(f, g), o.hide(f, g));
+                due("all: parts", x.parts(f, g), o.parts(f, g));
             }
-            due("worst judged", x.judged(f, 2, f % 3), o.judged(f, 2, f % 3));
+            due("all: judged", x.judged(f, 2, f % 3), o.judged(f, 2, f % 3));
+            due("all: still", x.still(f), o.still(f));
         }
-        due("worst sets", x.sets(false), o.sets(false));
-        due("worst adding", x.adding(true), o.adding(true));
+        due("all: sets", x.sets(false), o.sets(false));
+        due("all: look", x.look(), o.look());
+        due("all: adding", x.adding(true), o.adding(true));
+    }
+
+    /** TESTS that are the last ones of all ROWS told, in a net that has few of them. */
+    private static void lateTests() {
+        StringBuilder s = new StringBuilder("unknown a;unknown b;unknown c;unknown d;unknown e;unknown f;");
+        String[] names = {"p", "q", "r", "s", "t", "u", "v", "w"};
+        for (int e = 0; e < 8; e++) {
+            s.append("eq ").append(names[e]).append(e == 0 ? " in 0,1" : e == 1 ? " in 0,2,1" : " in 0");
+            s.append(":+a+b+c+d+e+").append(e + 1).append("f;");
+        }
+        for (int g = 0; g < 6; g++) {
+            char of = (char) ('a' + g);
+            s.append("gauge g").append(of).append(" of ").append(of).append(" noise 1;");
+        }
+        s.append("fault x in q;fault y in gf;fault z in p;");
+        GaugeNet x = Check.of(s.toString());
+        due("15 tests", x.tests(), 3432);
+        due("6 position", x.position(2), true);
+        due("15 tests", x.tests(), 1);
+        due("16 test", x.test(0), 16130);
+        due("17 parts", x.parts(0, 2), 0);
+        due("17 parts", x.parts(0, 1), -2);
+        due("27 ring", x.ring(0, 1), 0);
+        due("25 uses", x.uses(0, 1), 6);
+        due("28 runs", x.runs(0), 1);
+        due("29 weight", x.weight(0, 1), 1);
+        due("29 weight", x.weight(0, 8), -1);
+        due("29 weight", x.weight(0, 13), -2);
+        due("31 bound", x.bound(0), 7);
+        due("32 rings", x.rings(0), 0);
+        due("33 from", x.from(0, 0), 15);
+        due("33 from", x.from(0, 1), 8);
+        due("34 odds", x.odds(0, -1, 0, -1), 729);
+        due("34 odds", x.odds(0, -1, 0, 6), 2);
+        due("35 sets", x.sets(false), 1);
+        due("36 set", x.set(false, 0), 0);
+        due("9 reading", x.reading(0, 8), true);
+        due("30 nought", x.nought(0), 8);
+        due("32 rings", x.rings(0), 1);
+        due("35 sets", x.sets(false), 2);
+        due("36 set", x.set(false, 0), 1);
+        due("36 set", x.set(false, 1), 2);
+        due("37 look", x.look(), 0);
+        due("38 hide", x.hide(0, 1), 1);
+        due("39 still", x.still(0), 1);
+        due("39 still", x.still(1), 0);
+        due("40 judged: found", x.judged(0, 10, 0), 3);
+        due("40 judged: unseen", x.judged(1, 10, 1), 3);
+        due("41 mistaken", x.mistaken(1, 4), 1);
+        due("6 position", x.position(1), true);
+        due("15 tests: each seven of eight rows", x.tests(), 8);
     }
 }
