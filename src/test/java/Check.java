@@ -15,6 +15,15 @@ final class Check {
         due(call, got ? 1 : 0, want ? 1 : 0);
     }
 
+    /** A test of one sentence of the document: the sentence is told if some answer in it was not as due. */
+    static void holds(String sentence, Runnable test) {
+        int before = wrong;
+        test.run();
+        if (wrong != before) {
+            System.out.println("    so this does not hold: " + sentence);
+        }
+    }
+
     static void end() {
         System.out.println(asked + " answers, " + wrong + " not as due");
         if (wrong != 0) {
@@ -40,6 +49,17 @@ final class Check {
     static int read(GaugeNet x, String text) {
         feed(x, text);
         return x.read();
+    }
+
+    /** Reads a text that has a fault, on an object of its own. */
+    static void fault(String text, int number, int place) {
+        GaugeNet x = new GaugeNet();
+        due("read() of " + text, read(x, text), number);
+        due("place() of " + text, x.place(), place);
+    }
+
+    static void right(String text) {
+        fault(text, 0, -1);
     }
 
     static GaugeNet of(String text) {

@@ -23,7 +23,16 @@ public final class OracleTest {
             random = new Random(seed);
             compare(6, 8, 6, 8, 1, 3);
         }
+        for (int seed = 4001; seed <= 4200; seed++) {
+            random = new Random(seed);
+            compareTexts();
+        }
+        for (int seed = 5001; seed <= 5200; seed++) {
+            random = new Random(seed);
+            askFirst();
+        }
         readAll();
+        readAllBeginnings();
         Check.end();
     }
 
@@ -102,6 +111,108 @@ public final class OracleTest {
             askSums(x, o);
             askBlame(x, o);
             change(x, o);
+        }
+    }
+
+    /** Several texts behind one another on one object, some of them with faults. */
+    private static void compareTexts() {
+        GaugeNet x = new GaugeNet();
+        Oracle o = new Oracle();
+        for (int n = 0; n < 6; n++) {
+            String text = draw(below(5) + 1, below(5), below(5), below(6), 1 + below(3));
+            int kind = below(6);
+            text = kind == 0 ? "" : kind == 1 ? text + "unknown ua;" : kind == 2 ? text + "eq x:+1000;eq y" : text;
+            told = text;
+            Check.feed(x, text);
+            o.tape = text;
+            due("read()", x.read(), o.read());
+            due("place()", x.place(), o.faultPlace);
+            for (int w = 0; w < 18; w++) {
+                due("count " + w, x.count(w), o.count(w));
+            }
+            for (int eq = 0; eq < 8; eq++) {
+                for (int u = -1; u < 7; u++) {
+                    due("number " + eq + " " + u, x.number(eq, u), o.number(eq, u));
+                }
+            }
+            ask(x, o);
+            change(x, o);
+            if (below(2) == 0) {
+                ask(x, o);
+            }
+        }
+    }
+
+    private static void ask(GaugeNet x, Oracle o) {
+        askNet(x, o);
+        askTests(x, o);
+        askSums(x, o);
+        askBlame(x, o);
+    }
+
+    /** Each call as the first behind a text and some changes: no answer hangs on what was asked ahead of it. */
+    private static void askFirst() {
+        String text = draw(below(4) + 1, below(5), below(5), below(5) + 1, 1 + below(3));
+        told = text;
+        int p = below(3) == 0 ? below(4) : 0;
+        int out = below(3) == 0 ? below(4) : -1;
+        int v = below(9) - 4;
+        Oracle o = new Oracle();
+        o.tape = text;
+        o.read();
+        o.position(p);
+        o.in(out, false);
+        o.reading(0, v);
+        for (int call = 0; call < 30; call++) {
+            GaugeNet x = new GaugeNet();
+            Check.feed(x, text);
+            x.read();
+            x.position(p);
+            x.in(out, false);
+            x.reading(0, v);
+            askOne(call, x, o);
+        }
+    }
+
+    private static void askOne(int call, GaugeNet x, Oracle o) {
+        int t = drawTest(o);
+        int row = oneOf(0, 13);
+        int f = oneOf(0, o.faults);
+        int g = oneOf(0, o.faults);
+        boolean is = below(2) == 0;
+        int what = below(3);
+        String asked = "first call " + call + " " + t + " " + row + " " + f + " " + g;
+        switch (call) {
+            case 0: due(asked, x.pairs(), o.pairs()); break;
+            case 1: due(asked, x.row(row), o.row(row)); break;
+            case 2: due(asked, x.unknown(f), o.unknown(f)); break;
+            case 3: due(asked, x.tests(), o.tests()); break;
+            case 4: due(asked, x.test(t), o.test(t)); break;
+            case 5: due(asked, x.parts(f, g), o.parts(f, g)); break;
+            case 6: due(asked, x.seen(f), o.seen(f)); break;
+            case 7: due(asked, x.parted(f, g), o.parted(f, g)); break;
+            case 8: due(asked, x.told(f + 1), o.told(f + 1)); break;
+            case 9: due(asked, x.adding(is), o.adding(is)); break;
+            case 10: due(asked, x.taking(), o.taking()); break;
+            case 11: due(asked, x.positions(), o.positions()); break;
+            case 12: due(asked, x.uses(t, row), o.uses(t, row)); break;
+            case 13: due(asked, x.use(t, row, 0), o.use(t, row, 0)); break;
+            case 14: due(asked, x.ring(t, row), o.ring(t, row)); break;
+            case 15: due(asked, x.runs(t), o.runs(t)); break;
+            case 16: due(asked, x.weight(t, row), o.weight(t, row)); break;
+            case 17: due(asked, x.nought(t), o.nought(t)); break;
+            case 18: due(asked, x.bound(t), o.bound(t)); break;
+            case 19: due(asked, x.rings(t), o.rings(t)); break;
+            case 20: due(asked, x.from(t, f), o.from(t, f)); break;
+            case 21: due(asked, x.odds(t, f, g, 1), o.odds(t, f, g, 1)); break;
+            case 22: due(asked, x.sets(is), o.sets(is)); break;
+            case 23: due(asked, x.set(is, 0), o.set(is, 0)); break;
+            case 24: due(asked, x.look(), o.look()); break;
+            case 25: due(asked, x.hide(f, g), o.hide(f, g)); break;
+            case 26: due(asked, x.still(row), o.still(row)); break;
+            case 27: due(asked, x.judged(f, 9, what), o.judged(f, 9, what)); break;
+            case 28: due(asked, x.mistaken(f, 7), o.mistaken(f, 7)); break;
+            default: due(asked, x.net(), o.net()); break;
         }
     }
 
@@ -251,6 +362,29 @@ public final class OracleTest {
             due("place()", x.place(), o.faultPlace);
             for (int w = 0; w < 18; w++) {
                 due("count " + w, x.count(w), o.count(w));
+            }
+        }
+    }
+
+    /** A TOKEN of each kind behind each beginning of a text that has all kinds of TELLS. */
+    private static void readAllBeginnings() {
+        String text = "unknown x ; eq a in 0 , 1 : + 2 x - 2 + y ; gauge g of x noise 1 cost 2 ; maybe h of x cost 1 ; "
+                + "gauge i of x noise 3 ; fault f in a ; eq b : - 1 ; ";
+        String[] kinds = {"unknown", "eq", "in", "gauge", "maybe", "of", "noise", "cost", "fault", "z", "1", ";", ":", ",", "+", "-", "?", ""};
+        for (int n = 0; n <= text.length(); n++) {
+            if (n > 0 && text.charAt(n - 1) != ' ') {
+                continue;
+            }
+            for (String kind : kinds) {
+                for (String last : kinds) {
+                    told = text.substring(0, n) + kind + " " + last;
+                    GaugeNet x = new GaugeNet();
+                    Oracle o = new Oracle();
+                    Check.feed(x, told);
+                    o.tape = told;
+                    due("read()", x.read(), o.read());
+                    due("place()", x.place(), o.faultPlace);
+                }
             }
         }
     }
