@@ -551,6 +551,36 @@ public final class GaugeNet {
             }
         }
 
+        void hold(int eq, int positions) {
+            if (eq >= 0 && eq < holds.length) {
+                holds[eq] |= positions;
+            }
+        }
+
+        void addConstant(int eq, int number) {
+            if (eq >= 0 && eq < constants.length) {
+                constants[eq] += number;
+            }
+        }
+
+        void putNoise(int gauge, int noise) {
+            if (gauge >= 0 && gauge < noiseOfGauge.length) {
+                noiseOfGauge[gauge] = noise;
+            }
+        }
+
+        void putCost(int gauge, int cost) {
+            if (gauge >= 0 && gauge < costOfGauge.length) {
+                costOfGauge[gauge] = cost;
+            }
+        }
+
+        void putRowOfFault(int fault, int row) {
+            if (fault >= 0 && fault < rowOfFault.length) {
+                rowOfFault[fault] = row;
+            }
+        }
+
         long constantOf(int row) {
             if (isEq(row)) {
                 return constants[row];
@@ -897,13 +927,11 @@ public final class GaugeNet {
 
         private void parseEq() {
             int eq = works.eqs;
-            if (!acceptHead(T_EQ, eq, MOST_EQS) || eq < 0 || eq >= MOST_EQS) {
+            if (!acceptHead(T_EQ, eq, MOST_EQS)) {
                 return;
             }
             works.eqs++;
-            works.holds[eq] = ALL_POSITIONS;
-            boolean on = kind() != T_IN || parsePositions(eq);
-            on = on && accept(T_COLON) && parseTerm(eq);
+            boolean on = parsePositions(eq) && accept(T_COLON) && parseTerm(eq);
             for (int n = 0; n < MOST_TOKENS && on && (kind() == T_PLUS || kind() == T_MINUS); n++) {
                 on = parseTerm(eq);
             }
@@ -913,7 +941,10 @@ public final class GaugeNet {
         }
 
         private boolean parsePositions(int eq) {
-            works.holds[eq] = 0;
+            if (kind() != T_IN) {
+                works.hold(eq, ALL_POSITIONS);
+                return true;
+            }
             boolean on = accept(T_IN) && parsePosition(eq);
             for (int n = 0; n < MOST_TOKENS && on && kind() == T_COMMA; n++) {
                 on = accept(T_COMMA) && parsePosition(eq);
@@ -925,8 +956,7 @@ public final class GaugeNet {
             if (!accept(T_INT)) {
                 return false;
             }
-            int position = intWithin(0, POSITIONS - 1);
-            works.holds[eq] |= 1 << position;
+            works.hold(eq, 1 << intWithin(0, POSITIONS - 1));
             return true;
         }
 
@@ -954,7 +984,7 @@ public final class GaugeNet {
             if (kind() == T_NAME) {
                 return parseNamed(eq, sign * intWithin(1, MOST_NUMBER));
             }
-            works.constants[eq] += sign * intWithin(0, MOST_CONSTANT);
+            works.addConstant(eq, sign * intWithin(0, MOST_CONSTANT));
             return true;
         }
 
@@ -975,7 +1005,7 @@ public final class GaugeNet {
 
         private void parseGauge(int kind) {
             int gauge = works.gauges;
-            if (!acceptHead(kind, gauge, MOST_GAUGES) || gauge < 0 || gauge >= MOST_GAUGES) {
+            if (!acceptHead(kind, gauge, MOST_GAUGES)) {
                 return;
             }
             works.gauges++;
@@ -1001,7 +1031,7 @@ public final class GaugeNet {
             if (!accept(T_NOISE) || !accept(T_INT)) {
                 return false;
             }
-            works.noiseOfGauge[gauge] = intWithin(0, MOST_NOISE);
+            works.putNoise(gauge, intWithin(0, MOST_NOISE));
             return true;
         }
 
@@ -1012,13 +1042,13 @@ public final class GaugeNet {
             if (!accept(T_COST) || !accept(T_INT)) {
                 return false;
             }
-            works.costOfGauge[gauge] = intWithin(1, MOST_COST);
+            works.putCost(gauge, intWithin(1, MOST_COST));
             return true;
         }
 
         private void parseFault() {
             int number = works.faults;
-            if (!acceptHead(T_FAULT, number, MOST_FAULTS) || number < 0 || number >= MOST_FAULTS) {
+            if (!acceptHead(T_FAULT, number, MOST_FAULTS)) {
                 return;
             }
             works.faults++;
@@ -1028,9 +1058,9 @@ public final class GaugeNet {
             int eq = numberNamed(T_EQ);
             int gauge = numberNamed(T_GAUGE);
             if (eq != NONE) {
-                works.rowOfFault[number] = eq;
+                works.putRowOfFault(number, eq);
             } else if (gauge != NONE) {
-                works.rowOfFault[number] = MOST_EQS + gauge;
+                works.putRowOfFault(number, MOST_EQS + gauge);
             } else {
                 keep(NAME, at - 1);
             }
